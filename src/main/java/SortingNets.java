@@ -1202,7 +1202,7 @@ public final class SortingNets {
         }
 
         boolean isEmpty() {
-            return (words[0] | words[1] | words[2] | words[3]) == 0;
+            return first() == NONE;
         }
 
         /** NONE, if it is empty. */

@@ -24,6 +24,7 @@ public final class MadeNetsTest {
         lays();
         cuts();
         cutsRefused();
+        sixty();
         Check.finish("MadeNetsTest");
     }
 
@@ -268,6 +269,7 @@ public final class MadeNetsTest {
         Check.shape("9: swaps", x, 0, "4:23,02,01,12,13");
         Check.due("9: j and j", Check.net(x, 1, "3:02,12") + x.swaps(1, 0), 2);
         Check.due("9: j and i", Check.net(x, 1, "3:01,12") + x.swaps(1, 0), 2);
+        Check.due("9: i and j, the other way", Check.net(x, 1, "3:12,01") + x.swaps(1, 0), 2);
         Check.due("9: alike", Check.net(x, 1, "3:01,01") + x.swaps(1, 0), 2);
         Check.due("9: no next", x.swaps(0, 4), -1);
         Check.due("9: k below 0", x.swaps(0, -1), -1);
@@ -354,6 +356,10 @@ public final class MadeNetsTest {
         // layers 1, 1, 1, 2, 2
         Check.due("14: by i", x.lays(0), 4);
         Check.shape("14: by i", x, 0, "6:01,23,45,04,12");
+        // layers 1, 2, 3, 1: number 2 has 02 for 03 then
+        Check.net(x, 0, "6:01,02,03,45");
+        Check.due("14: like i, unlike j", x.lays(0), 3);
+        Check.shape("14: like i, unlike j", x, 0, "6:01,45,02,03");
         Check.due("14: none", x.lays(1), 0);
         Check.due("14: net 4", x.lays(4), -1);
         Check.due("14: net -1", x.lays(-1), -1);
@@ -405,5 +411,29 @@ public final class MadeNetsTest {
         Check.due("15: to net -1", x.cuts(1, 0, false, -1), -1);
         Check.row("15: row stays", x, 11, 1);
         Check.shape("15: refused", x, 1, "4:");
+    }
+
+    /** The most comparers that there can be, in every call that changes nets. */
+    private static void sixty() {
+        SortingNets x = new SortingNets();
+        x.draws(0, 8, 60, 5);
+        Check.due("10: sixty", x.copies(0, 1), 60);
+        Check.due("12: sixty", x.flips(1) + x.flips(1), 120);
+        Check.due("13: sixty", x.mirrors(1) + x.mirrors(1), 120);
+        Check.due("33: sixty as before", x.same(0, 1), 1);
+        x.lays(1);
+        Check.due("14: sixty", x.has(1, 1), 60);
+        Check.due("14: sixty", x.same(0, 1), 1);
+        Check.due("14: sixty again", x.lays(1), 0);
+        Check.due("9: the last two", x.swaps(1, 58) >= 0, true);
+        Check.due("9: no next", x.swaps(1, 59), -1);
+        Check.due("15: sixty", x.cuts(1, 0, true, 2) <= 60, true);
+        Check.due("8: the last one", x.drops(1, 59), 59);
+        x.makes(3, 8, 0);
+        for (int k = 0; k < 60; k++) {
+            x.adds(3, 6, 7);
+        }
+        Check.due("15: none of them is cut", x.cuts(3, 0, false, 3), 60);
+        Check.due("15: none of them is cut", x.comparer(3, 59), 56);
     }
 }

@@ -10,6 +10,7 @@ public final class NeededTest {
         tests();
         testsOfMany();
         helps();
+        sixty();
         rowStaysWhenRefused();
         Check.finish("NeededTest");
     }
@@ -76,6 +77,9 @@ public final class NeededTest {
         // the last goes: 02 12 01 sorts; then 01 and 12 must stay, and one of 02
         Check.due("29: from the last to the first", x.thins(1), 2);
         Check.shape("29: from the last to the first", x, 1, "3:02,12,01");
+        Check.net(x, 1, "4:12,01,23,02,13,12");
+        Check.due("29: the first one", x.thins(1), 1);
+        Check.shape("29: the first one", x, 1, FOUR);
         Check.due("29: net 4", x.thins(4), -1);
         Check.due("29: net -1", x.thins(-1), -1);
     }
@@ -97,6 +101,11 @@ public final class NeededTest {
         Check.due("30: mended by the next", x.broken(1, 0, 2), 0);
         Check.due("30: always exchanged", x.broken(1, 1, 1), 2);
         Check.row("30: always exchanged", x, 1);
+        x.makes(2, 8, 2);
+        x.adds(2, 6, 7);
+        // only a single 1 is told from a 0 there
+        Check.due("30: the last wires exchanged", x.broken(2, 28, 1), 8);
+        Check.row("30: the last wires exchanged", x, 1);
         Check.due("30: how 3", x.broken(0, 0, 3), -1);
         Check.due("30: how -1", x.broken(0, 0, -1), -1);
         Check.due("30: none such", x.broken(0, 5, 0), -1);
@@ -191,6 +200,23 @@ public final class NeededTest {
         Check.due("32: though there are 60", x.helps(2), 1);
         Check.due("32: net 4", x.helps(4), -1);
         Check.due("32: net -1", x.helps(-1), -1);
+    }
+
+    private static void sixty() {
+        SortingNets x = new SortingNets();
+        x.makes(0, 8, 4);
+        while (x.has(0, 1) < 60) {
+            x.adds(0, 0, 1);
+        }
+        Check.due("27: sixty", x.idle(0), (1L << 60) - (1L << 19));
+        Check.due("28: sixty", x.spare(0), (1L << 60) - (1L << 19));
+        Check.row("28: sixty", x, 41);
+        int many = x.tests(0);
+        Check.due("31: sixty", noticed(x, 0), many);
+        Check.due("30: sixty", x.broken(0, 59, 0), 0);
+        Check.due("30: sixty", x.broken(0, 59, 2) > 0, true);
+        Check.due("32: sixty", x.helps(0), 1);
+        Check.due("29: sixty", x.thins(0), 41);
     }
 
     private static void rowStaysWhenRefused() {

@@ -15,6 +15,7 @@ public final class WhatTheyAreTest {
         leaves();
         orders();
         merges();
+        sixty();
         rowStaysWhenRefused();
         Check.finish("WhatTheyAreTest");
     }
@@ -50,6 +51,8 @@ public final class WhatTheyAreTest {
         Check.due("17: sixty layers", x.depth(2), 60);
         Check.due("17: sixty layers", x.count(0), 60);
         Check.due("17: sixty layers", x.row(59), 1);
+        x.depth(2);
+        Check.due("17: sixty layers, asked again", x.row(59), 1);
         Check.due("17: net 4", x.depth(4), -1);
         Check.due("17: net -1", x.depth(-1), -1);
         Check.due("17: row stays", x.count(0), 60);
@@ -282,6 +285,28 @@ public final class WhatTheyAreTest {
         Check.row("26: four and four", x, 25);
         x.drops(1, 8);
         Check.due("26: without 56", x.merges(1, 4) > 0, true);
+    }
+
+    /** A net of ten comparers that sorts, six times. */
+    private static void sixty() {
+        SortingNets x = new SortingNets();
+        x.makes(0, 5, 1);
+        x.copies(0, 1);
+        for (int k = 0; k < 5; k++) {
+            x.joins(0, 1);
+        }
+        Check.due("sixty", x.has(0, 1), 60);
+        Check.due("16: sixty", x.comparer(0, 59), 1);
+        Check.due("18: sixty", x.runs(0, 0b00111), 0b11100);
+        Check.due("19: sixty", Check.tells(x, 0, "5,4,3,2,1"), 10);
+        Check.row("19: sixty", x, 1, 2, 3, 4, 5);
+        Check.due("20: sixty", x.sorts(0), 1);
+        Check.due("21: sixty", x.image(0), 6);
+        Check.due("22: sixty", x.comes(0, 0b11000), 10);
+        Check.due("23: sixty", x.ranks(0, 4), 16);
+        Check.due("24: sixty", x.leaves(0, 4), 16);
+        Check.due("25: sixty", x.orders(0), 0);
+        Check.due("26: sixty", x.merges(0, 2), 0);
     }
 
     private static void rowStaysWhenRefused() {
