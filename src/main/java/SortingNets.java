@@ -1342,7 +1342,7 @@ public final class SortingNets {
          * In how many ways the wires from fixed on can be turned so that the set is a part of the
          * goal; the search stops when there are enough.
          */
-        static int waysWithin(long set, long goal, int n, int fixed, int enough) {
+        private static int waysWithin(long set, long goal, int n, int fixed, int enough) {
             if (fixed >= n - 1 || fixed >= MOST_WIRES_WITHIN - 1) {
                 return (set & ~goal) == 0 ? 1 : 0;
             }
