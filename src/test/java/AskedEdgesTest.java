@@ -64,6 +64,10 @@ public final class AskedEdgesTest {
         }
         Check.due("17: numbers", x.count(0), depth);
         Check.due("17: all in some layer", all, 60);
+        for (int again = 0; again < 2; again++) {
+            Check.due("17: sixty again", x.depth(1), 60);
+            Check.due("17: the last one again", x.row(59), 1);
+        }
         Check.due("17: one again", x.depth(0), 1);
         Check.row("17: nothing is left of others", x, 4);
     }
@@ -89,6 +93,17 @@ public final class AskedEdgesTest {
         Edges.refused("18: below 0", -1, x -> x.runs(0, -1));
         Edges.refused("18: the least", -1, x -> x.runs(3, Edges.MIN));
         Edges.refused("18: the greatest", -1, x -> x.runs(3, Edges.MAX));
+    }
+
+    /** 18: a COMPARER that has gone is not BUSY, and changes nothing. */
+    static void p18OneThatHasGone() {
+        SortingNets x = Edges.with("4:01,23");
+        x.drops(0, 1);
+        Check.due("18: the last has gone", x.runs(0, 4), 4);
+        Check.row("18: the last has gone", x, 0);
+        x.drops(0, 0);
+        Check.due("18: all have gone", x.runs(0, 1), 1);
+        Check.row("18: all have gone", x, 0);
     }
 
     /** 18: COMPARERS that are BUSY with it, as bits: those above 31, too. */

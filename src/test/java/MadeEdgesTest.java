@@ -586,6 +586,12 @@ public final class MadeEdgesTest {
         Check.shape("13: eight wires", x, 2, "8:07,67,34,25");
         Check.due("13: none", x.mirrors(3), 0);
         Check.shape("13: none", x, 3, "4:");
+        Check.net(x, 3, Edges.pairs(8, 60));
+        Check.due("13: sixty", x.mirrors(3), 60);
+        for (int k = 0; k < 60; k++) {
+            int w = 6 - k % 7;
+            Check.due("13: sixty", x.comparer(3, k), 11 * w + 1);
+        }
     }
 
     /** 14: at how many numbers there is one of other WIRES than before: at none, if it is laid already. */
@@ -606,6 +612,16 @@ public final class MadeEdgesTest {
         // layers 1, 1, 2, 2, 3, 1
         Check.due("14: all but the first", x.lays(1), 5);
         Check.shape("14: all but the first", x, 1, "6:01,23,45,01,45,01");
+    }
+
+    /** 14: .. of other WIRES: one of them is enough. */
+    static void p14OneOtherWireCounts() {
+        SortingNets x = Edges.with("6:01,02,03,45", "6:45,35,25,01");
+        // layers 1, 2, 3, 1 of both
+        Check.due("14: like i, unlike j", x.lays(0), 3);
+        Check.shape("14: like i, unlike j", x, 0, "6:01,45,02,03");
+        Check.due("14: unlike i, like j", x.lays(1), 4);
+        Check.shape("14: unlike i, like j", x, 1, "6:01,45,35,25");
     }
 
     /** 14: in the order of LAYERS, in each by i: whichever order they had, and it stays laid. */
@@ -697,6 +713,22 @@ public final class MadeEdgesTest {
         Check.due("15: untangled", x.cuts(0, 0, true, 1), 3);
         Check.row("15: untangled", x, 3);
         Check.shape("15: untangled", x, 1, "3:02,12,02");
+    }
+
+    /** 15: .. (LINES being WIRES): each is at first at itself, whatever was untangled before. */
+    static void p15UntangledAnew() {
+        SortingNets x = new SortingNets();
+        x.makes(0, 4, 4);
+        Check.due("15: nothing was before", x.cuts(0, 3, true, 1), 3);
+        Check.shape("15: nothing was before", x, 1, "3:02,01,12");
+        Check.net(x, 2, "8:70,61,52,43");
+        x.orders(0);
+        Check.due("15: behind a crossed net", x.cuts(0, 3, true, 1), 3);
+        Check.row("15: behind a crossed net", x, 3);
+        Check.shape("15: behind a crossed net", x, 1, "3:02,01,12");
+        Check.due("15: behind it, to be crossed", x.cuts(0, 0, true, 1), 3);
+        Check.row("15: behind it, to be crossed", x, 3);
+        Check.due("15: sorts", x.sorts(1), 1);
     }
 
     /** 15: NET t may be s. */

@@ -121,6 +121,13 @@ public final class NeededEdgesTest {
         Check.shape("29: the last five", x, 1, Edges.FOUR);
     }
 
+    /** 29: .. to the first: it alone goes. */
+    static void p29ToTheFirst() {
+        SortingNets x = Edges.with("4:01,02,13,01,23,12");
+        Check.due("29: the first one", x.thins(0), 1);
+        Check.shape("29: the first one", x, 0, "4:02,13,01,23,12");
+    }
+
     // ---- 30, 31, 32: broken, tests, helps
 
     private static void broken(SortingNets x, int s, int k, int[] many, int[] first) {
@@ -138,6 +145,17 @@ public final class NeededEdgesTest {
         broken(x, 0, 2, new int[] {3, 3, 6}, new int[] {3, 12, 3});
         broken(x, 0, 4, new int[] {4, 2, 6}, new int[] {5, 3, 3});
         broken(x, 1, 0, new int[] {1, 1, 2}, new int[] {1, 2, 1});
+    }
+
+    /** 30: how 0, 1, 2: of the most wires. */
+    static void p30MostWires() {
+        SortingNets x = new SortingNets();
+        x.makes(0, 8, 4);
+        broken(x, 0, 0, new int[] {16, 16, 32}, new int[] {1, 16, 1});
+        broken(x, 0, 3, new int[] {16, 16, 32}, new int[] {8, 128, 8});
+        broken(x, 0, 7, new int[] {22, 22, 44}, new int[] {2, 8, 2});
+        broken(x, 0, 13, new int[] {15, 15, 30}, new int[] {1, 2, 1});
+        broken(x, 0, 18, new int[] {12, 16, 28}, new int[] {5, 3, 3});
     }
 
     /** 30: the first of these (NONE). */
@@ -213,6 +231,21 @@ public final class NeededEdgesTest {
         tested("5:01,12,23,34,01,12,23,01,12,01", 3, 7, 1, 15);
     }
 
+    /** 31: the most wires; then the fewest, of the same object. */
+    static void p31MostAndFewestWires() {
+        SortingNets x = Edges.with("8:", "2:01", Edges.FOUR);
+        x.makes(0, 8, 1);
+        Check.due("31: eight by way 1", x.tests(0), 7);
+        Check.row("31: eight by way 1", x, 15, 3, 63, 1, 7, 31, 127);
+        Check.due("31: two", x.tests(1), 1);
+        Check.row("31: two", x, 1);
+        x.makes(0, 8, 4);
+        Check.due("31: eight by way 4", x.tests(0), 7);
+        Check.row("31: eight by way 4", x, 21, 35, 87, 25, 5, 23, 95);
+        Check.due("31: four", x.tests(2), 3);
+        Check.row("31: four", x, 1, 7, 5);
+    }
+
     private static void tested(String net, long... tests) {
         SortingNets x = Edges.with(net);
         Check.due("31: tests of " + net, x.tests(0), tests.length);
@@ -249,6 +282,15 @@ public final class NeededEdgesTest {
         Check.due("32: helps " + net, x.helps(0), code);
         Check.row("32: helps " + net, x, wrong);
         Check.shape("32: none comes", x, 0, net);
+    }
+
+    /** 32: asked of the most wires before anything else is. */
+    static void p32AskedFirst() {
+        SortingNets x = new SortingNets();
+        x.makes(0, 8, 2);
+        x.drops(0, 27);
+        Check.due("32: eight", x.helps(0), 1);
+        Check.row("32: eight", x, 0);
     }
 
     /** 32: it is asked only: sixty are not too many. */
