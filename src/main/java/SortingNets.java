@@ -609,7 +609,7 @@ public final class SortingNets {
         }
         long from = smallImage(nets[s]);
         int fewest = 0;
-        while (fewest < MOST_REST && !isFinishedBy(from, n, 0, fewest)) {
+        while (fewest < MOST_REST && !isFinishedBy(from, n, 0, fewest, path)) {
             fewest++;
         }
         tellFirst(path, fewest);
@@ -969,14 +969,14 @@ public final class SortingNets {
     }
 
     /** Whether just so many comparers more can sort the set; they stand in the path then. */
-    private boolean isFinishedBy(long set, int n, int used, int many) {
-        if (used >= many || used >= MOST_REST) {
+    private static boolean isFinishedBy(long set, int n, int used, int many, int[] path) {
+        if (used >= many || used >= path.length) {
             return Long.bitCount(set) == n + 1;
         }
         for (int i = 0; i < n - 1; i++) {
             for (int j = i + 1; j < n; j++) {
                 path[used] = code(i, j);
-                if (isFinishedBy(Sets.compared(set, i, j), n, used + 1, many)) {
+                if (isFinishedBy(Sets.compared(set, i, j), n, used + 1, many, path)) {
                     return true;
                 }
             }

@@ -195,6 +195,14 @@ public final class AskedEdgesTest {
         Check.due("19: none", Check.tells(x, 0, "1,2,3,4,5,6,7,8"), 0);
     }
 
+    /** 19: how many COMPARERS are BUSY: one that has gone is not. */
+    static void p19OneThatHasGone() {
+        SortingNets x = Edges.with("4:01,23");
+        x.drops(0, 1);
+        Check.due("19: the last has gone", Check.tells(x, 0, "2,1,4,3"), 1);
+        Check.row("19: the last has gone", x, 1, 2, 4, 3);
+    }
+
     /** 19: NONE (asked first here): before a sign that can't stand. */
     static void p19NoneFirst() {
         for (int s : new int[] {-1, 4, Edges.MIN, Edges.MAX}) {
@@ -367,6 +375,20 @@ public final class AskedEdgesTest {
         Check.row("25: one way up", x, 0, 1, 2, 3, 5, 6, 4);
         Check.due("25: 7:06", x.orders(3), 5038);
         Check.row("25: 7:06", x, 0, 1, 2, 3, 4, 6, 5);
+    }
+
+    /** 25: n unlike things: fewer behind more. */
+    static void p25FewerBehindMore() {
+        SortingNets x = Edges.with("7:", "2:01", "3:01", "4:03,12");
+        for (int again = 0; again < 2; again++) {
+            Check.due("25: seven", x.orders(0), 5039);
+            Check.due("25: two", x.orders(1), 0);
+            Check.row("25: two", x);
+            Check.due("25: four", x.orders(3), 20);
+            Check.row("25: four", x, 0, 1, 3, 2);
+            Check.due("25: three", x.orders(2), 4);
+            Check.row("25: three", x, 0, 2, 1);
+        }
     }
 
     /** 25: none, if there is none: the ROW has no numbers then. */

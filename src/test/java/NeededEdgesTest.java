@@ -291,6 +291,17 @@ public final class NeededEdgesTest {
         x.drops(0, 27);
         Check.due("32: eight", x.helps(0), 1);
         Check.row("32: eight", x, 0);
+        x = new SortingNets();
+        x.makes(0, 8, 0);
+        x.adds(0, 0, 7);
+        for (int r = 7; r > 1; r--) {
+            for (int w = 1; w < r; w++) {
+                x.adds(0, w, w + 1);
+            }
+        }
+        // 1s on wires 0 and 7, and m 0s, which are on wires 1 .. m then: 63 are wrong, those of 3 are the most
+        Check.due("32: wrong above 128 alone", x.helps(0), 3);
+        Check.row("32: wrong above 128 alone", x, 43);
     }
 
     /** 32: it is asked only: sixty are not too many. */
