@@ -13,9 +13,13 @@ import java.util.NoSuchElementException;
 import java.util.Random;
 import java.util.Set;
 import java.util.TreeSet;
+import java.util.regex.Matcher;
+import java.util.regex.Pattern;
 
 /** The public face is the document's, the source keeps to the language, and nothing is thrown but by row. */
 public final class FaceTest {
+    private static final Path DOCUMENT = Path.of("../shared/DOC.md");
+    private static final Path SOURCE = Path.of("src/main/java/SortingNets.java");
     private static final String[] FACE = {
         "int sign(int)", "boolean end(int)", "int net(int)", "int makes(int,int,int)", "int draws(int,int,int,int)",
         "int adds(int,int,int)", "int drops(int,int)", "int swaps(int,int)", "int copies(int,int)", "int joins(int,int)",
@@ -33,6 +37,9 @@ public final class FaceTest {
 
     public static void main(String[] args) throws Exception {
         face();
+        thrownAndNone();
+        documentsFace();
+        documentsSections();
         source();
         for (int run = 0; run < 300; run++) {
             oddCalls(run);
@@ -68,6 +75,57 @@ public final class FaceTest {
         Check.due("classes", SortingNets.class.getDeclaredClasses().length <= 12, true);
     }
 
+    private static void thrownAndNone() throws ReflectiveOperationException {
+        Check.due("NONE", SortingNets.NONE, -1);
+        Check.due("NONE's type", SortingNets.class.getField("NONE").getType() == int.class, true);
+        for (Method method : SortingNets.class.getMethods()) {
+            if (method.getDeclaringClass() == SortingNets.class) {
+                List<Class<?>> thrown = List.of(method.getExceptionTypes());
+                boolean row = method.getName().equals("row");
+                List<Class<?>> due = row ? List.of(NoSuchElementException.class) : List.of();
+                Check.due(method + " throws what the face says", thrown.equals(due), true);
+            }
+        }
+    }
+
+    /** What is public stands in the source as the document writes it, in the same order, and nothing else is. */
+    private static void documentsFace() throws IOException {
+        List<String> due = new ArrayList<>();
+        List<String> found = new ArrayList<>();
+        for (String line : Files.readString(DOCUMENT).split("\n")) {
+            if (line.startsWith("    public ")) {
+                due.add(line.replaceAll(";$", "").trim());
+            }
+        }
+        for (String line : Files.readString(SOURCE).split("\n")) {
+            if (line.startsWith("    public ")) {
+                found.add(line.replaceAll("( \\{|;)$", "").trim());
+            }
+        }
+        Check.due("the document's face", due.size(), FACE.length + 2);
+        Check.due("the face " + found + ", due is " + due, found.equals(due), true);
+    }
+
+    /** Ahead of these calls the interface says: behind each such line those calls come, up to the next one. */
+    private static void documentsSections() throws IOException {
+        Matcher sentence = Pattern.compile("Ahead of the calls (.*) the interface says: (---- .*)\\.")
+            .matcher(Files.readString(DOCUMENT));
+        String[] parts = Files.readString(SOURCE).split("\n    // (?=---- )");
+        int sections = 0;
+        while (sentence.find()) {
+            sections++;
+            String part = sections < parts.length ? parts[sections] : "";
+            Check.due("section " + sections + ": " + sentence.group(2), part.startsWith(sentence.group(2) + "\n"), true);
+            Matcher call = Pattern.compile("\n    public \\w+ (\\w+)\\(").matcher(part);
+            List<String> calls = new ArrayList<>();
+            while (call.find()) {
+                calls.add("`" + call.group(1) + "`");
+            }
+            Check.due("calls " + calls, String.join(", ", calls).equals(sentence.group(1)), true);
+        }
+        Check.due("sections", sections, 5);
+    }
+
     private static String told(Method method) {
         List<String> types = new ArrayList<>();
         for (Class<?> type : method.getParameterTypes()) {
@@ -77,7 +135,7 @@ public final class FaceTest {
     }
 
     private static void source() throws IOException {
-        String all = Files.readString(Path.of("src/main/java/SortingNets.java"));
+        String all = Files.readString(SOURCE);
         Check.due("signs 1 to 127", all.chars().allMatch(sign -> sign > 0 && sign < 128), true);
         String code = all.replaceAll("(?s)/\\*.*?\\*/", "").replaceAll("//.*", "");
         String[] barred = {
@@ -86,7 +144,7 @@ public final class FaceTest {
             "\\bSystem\\b", "\\bMAX_VALUE\\b", "\\bdouble\\b", "\\bfloat\\b"
         };
         for (String one : barred) {
-            Check.due("the source has " + one, java.util.regex.Pattern.compile(one).matcher(code).find(), false);
+            Check.due("the source has " + one, Pattern.compile(one).matcher(code).find(), false);
         }
         for (String line : code.split("\n")) {
             if (line.startsWith("import ")) {
